@@ -39,7 +39,7 @@ public final class ConstructionEdgesTest extends Edges {
     /** T, as the arena shows it when it is filled. */
     private static int t(HornProtocol x) {
         int last = x.count(C_TERMS) - 1;
-        while (last >= 0 && last < 99) {
+        for (int i = 0; i < 99 && last >= 0; i++) {
             last = x.make(PK, last, 0);
         }
         Due.is("make in the full arena", last, ERR_FULL);
@@ -51,7 +51,7 @@ public final class ConstructionEdgesTest extends Edges {
         x.know(0);
         x.saturate();
         int last = 0;
-        while (last >= 0 && last < 99) {
+        for (int i = 0; i < 99 && last >= 0; i++) {
             last = x.step(S_INIT, 0, 0, 0);
         }
         Due.is("step when all are held", last, ERR_FULL);
@@ -175,10 +175,22 @@ public final class ConstructionEdgesTest extends Edges {
             made.keeps(count(C_PHASE), BUILD);
             made.keeps(count(C_KNOWN), ERR_PHASE);
         }
-        List<Integer> alone = Look.all(new HornProtocol(3, 12, 12));
-        Later.builtOn(new HornProtocol(3, 12, 12));
-        Due.holds("a new object holds nothing of an older one",
-            alone.equals(Look.all(new HornProtocol(3, 12, 12))));
+        objectsAreApart();
+    }
+
+    private static void objectsAreApart() {
+        Scene built = scene(3, 12, 12, make(VAR, 0, 0), make(SENC, 3, 1), know(2), know(1),
+            rule(4, 3, 2));
+        Scene[] scenes = {scene(3, 12, 12), built, built.then(saturate(), step(S_INIT, 1, 0, 0))};
+        for (Scene scene : scenes) {
+            List<Integer> alone = Later.builtOn(scene.play());
+            HornProtocol x = scene.play();
+            Later.filled(new HornProtocol(4, 16, 32));
+            Later.builtOn(new HornProtocol(2, 8, 8));
+            Due.holds(scene + "other objects change nothing", alone.equals(Later.builtOn(x)));
+            Due.holds(scene + "older objects change nothing",
+                alone.equals(Later.builtOn(scene.play())));
+        }
     }
 
     private static void universe() {

@@ -29,7 +29,7 @@ final class Derivation {
             wanted.add(id);
         }
         Set<Integer> reached = new HashSet<>();
-        while (takeOneOf(wanted)) {
+        for (int i = 0; i < 256 && takeOneOf(wanted); i++) {
             int id = x.stepFact(x.count(HornProtocol.C_STEPS) - 1);
             wanted.remove(id);
             reached.add(id);

@@ -54,5 +54,9 @@ public final class EntryEdgesTest extends Edges {
             phase.keeps(entry(-1), ERR_RANGE);
             phase.keeps(entry(8), ERR_RANGE);
         }
+        // Here there is room for entries that a look could take away.
+        for (int i = -1; i < 4; i++) {
+            held(3).keeps(entry(i), i >= 0 && i < 3 ? ORDER[i] : ERR_RANGE);
+        }
     }
 }

@@ -170,6 +170,9 @@ public final class KnowledgeEdgesTest extends Edges {
         // AENC(u,v) with a v that is no PK is never opened.
         ranks(terms.then(know(6), know(1), know(4)), -1, 0, -1, -1, 0, -1, 0);
         ranks(terms.then(know(8), know(1), know(7)), -1, 0, -1, -1, 1, -1, -1, 0, 0);
+        // Not by any name, nor by all of them.
+        ranks(terms.then(know(6), know(0), know(1), know(3)), 0, 0, -1, 0, 1, 2, 0);
+        ranks(terms.then(know(8), know(0), know(1), know(2)), 0, 0, 0, -1, 1, 2, 1, 1, 0);
         // PK(PK(b)) is opened by PK(b).
         Scene twice = PLAIN.then(make(PK, 1, 0), make(PK, 4, 0), make(AENC, 0, 5), know(6));
         ranks(twice, -1, -1, -1, -1, -1, -1, 0);
@@ -188,11 +191,25 @@ public final class KnowledgeEdgesTest extends Edges {
         // In the order of the rules too: one round gives one link alone.
         ranks(PLAIN.then(rule(NONE, NONE, 0), rule(0, NONE, 1), rule(1, NONE, 2),
             rule(2, NONE, 3)), 1, 2, 3, 4);
-        // Each assignment of the greatest N.
-        Scene all = PLAIN.then(make(VAR, 0, 0), make(VAR, 1, 0), make(PAIR, 4, 5), make(SENC, 5, 4),
-            make(PK, 7, 0), rule(6, NONE, 8), know(0), know(1), know(2), know(3), saturate());
-        for (int code = 0; code < 16; code++) {
-            all.answers(rank(8, code % 4, code / 4), 2);
+        for (int n = 2; n <= 4; n++) {
+            everyAssignment(n);
+        }
+    }
+
+    /** (x,y) gives SENC(y,PK(PK(PK(x)))), two rounds before that could be made. */
+    private static void everyAssignment(int n) {
+        Scene built = scene(n, 16, 8, make(VAR, 0, 0), make(VAR, 1, 0), make(PAIR, n, n + 1),
+            make(PK, n, 0), make(PK, n + 3, 0), make(PK, n + 4, 0), make(SENC, n + 1, n + 5));
+        for (int i = 0; i < n; i++) {
+            built = built.then(know(i));
+        }
+        Scene alone = built.then(saturate());
+        Scene ruled = built.then(rule(n + 2, NONE, n + 6), saturate());
+        for (int vx = 0; vx < n; vx++) {
+            for (int vy = 0; vy < n; vy++) {
+                alone.answers(rank(n + 6, vx, vy), 4);
+                ruled.answers(rank(n + 6, vx, vy), 2);
+            }
         }
     }
 

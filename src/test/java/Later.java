@@ -1,13 +1,39 @@
 import java.util.ArrayList;
 import java.util.List;
+import java.util.function.IntUnaryOperator;
 
-/** What an object answers to a fixed run of further calls, which spends it. */
+/** What an object answers to fixed runs of further calls, each of which spends it. */
 final class Later {
     private static final int[][] MAKES = {
         {1, 0, 0}, {1, 1, 0}, {5, 0, 0}, {2, 0, 1}, {3, 1, 0}, {4, 0, 2}, {2, 1, 1}, {3, 0, 0}
     };
 
     private Later() {
+    }
+
+    /**
+     * The answers when the object is filled, each thing up to its first refusal, without a look
+     * before the end. The runs below have refused calls and looks of their own, which could hide
+     * what such a call before them has done.
+     */
+    static List<Integer> filled(HornProtocol x) {
+        List<Integer> seen = new ArrayList<>();
+        fill(seen, i -> x.know(0));
+        fill(seen, i -> x.rule(HornProtocol.NONE, HornProtocol.NONE, 1));
+        fill(seen, i -> x.make(HornProtocol.PK, i, 0));
+        seen.add(x.saturate());
+        fill(seen, i -> x.step(HornProtocol.S_INIT, 0, 0, 0));
+        fill(seen, i -> x.step(HornProtocol.S_RULE, 0, 0, 0));
+        seen.addAll(Look.all(x));
+        return seen;
+    }
+
+    private static void fill(List<Integer> seen, IntUnaryOperator call) {
+        int answer = 0;
+        for (int i = 0; i < 40 && answer >= 0; i++) {
+            answer = call.applyAsInt(i);
+            seen.add(answer);
+        }
     }
 
     /** The answers when the object is built on until all is full, and then saturated. */

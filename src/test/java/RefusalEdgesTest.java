@@ -76,16 +76,16 @@ public final class RefusalEdgesTest extends Edges {
         sweep.add(rank(a, b, c), List.of(UNDERIVABLE, ERR_PHASE, ERR_HANDLE, ERR_RANGE));
     }
 
-    /** All the refused calls one after the other on one object, which must stay as it was. */
+    /** All the refused calls one after the other on some objects, which must stay as they were. */
     private static final class Sweep {
         private final Scene scene;
-        private final HornProtocol touched;
-        private final HornProtocol touchedToo;
+        private final HornProtocol[] touched = new HornProtocol[4];
 
         Sweep(Scene scene) {
             this.scene = scene;
-            touched = scene.play();
-            touchedToo = scene.play();
+            for (int i = 0; i < touched.length; i++) {
+                touched[i] = scene.play();
+            }
         }
 
         void add(Call call, List<Integer> negative) {
@@ -96,19 +96,23 @@ public final class RefusalEdgesTest extends Edges {
             if (!negative.contains(got)) {
                 Due.holds(scene + call.toString() + " may not answer " + got, false);
             }
-            if (call.on(touched) != got || call.on(touchedToo) != got) {
-                Due.holds(scene + call.toString() + " answers " + got + " after other refused"
-                    + " calls too", false);
+            for (HornProtocol x : touched) {
+                if (call.on(x) != got) {
+                    Due.holds(scene + call.toString() + " answers " + got + " after other refused"
+                        + " calls too", false);
+                }
             }
         }
 
         void end() {
             Due.holds(scene + "refused calls change nothing",
-                Look.all(touched).equals(Look.all(scene.play())));
+                Look.all(touched[0]).equals(Look.all(scene.play())));
+            Due.holds(scene + "refused calls use nothing up",
+                Later.filled(touched[1]).equals(Later.filled(scene.play())));
             Due.holds(scene + "refused calls change nothing for later ones",
-                Later.builtOn(touched).equals(Later.builtOn(scene.play())));
+                Later.builtOn(touched[2]).equals(Later.builtOn(scene.play())));
             Due.holds(scene + "refused calls change nothing for K and steps",
-                Later.saturated(touchedToo).equals(Later.saturated(scene.play())));
+                Later.saturated(touched[3]).equals(Later.saturated(scene.play())));
         }
     }
 }

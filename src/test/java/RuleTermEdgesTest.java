@@ -90,5 +90,11 @@ public final class RuleTermEdgesTest extends Edges {
             }
             phase.keeps(ruleTerm(8, 0), ERR_RANGE);
         }
+        // Here there is room for rules that a look could take away.
+        for (int r = -1; r < 4; r++) {
+            for (int which = 0; which < 3; which++) {
+                held(3).keeps(ruleTerm(r, which), r >= 0 && r < 3 ? HELD[r][which] : ERR_RANGE);
+            }
+        }
     }
 }

@@ -52,18 +52,20 @@ final class Scene {
     /** The call answers this, and no call after it shows that it was ever made. */
     void keeps(Call call, int due) {
         if (untouched == null) {
-            untouched = List.of(Look.all(play()), Later.builtOn(play()), Later.saturated(play()));
+            untouched = List.of(Look.all(play()), Later.filled(play()), Later.builtOn(play()),
+                Later.saturated(play()));
         }
-        HornProtocol x = play();
-        HornProtocol y = play();
-        for (HornProtocol each : new HornProtocol[] {x, y, x}) {
+        HornProtocol[] x = {play(), play(), play(), play()};
+        for (HornProtocol each : x) {
             int got = call.on(each);
-            if (got != due) {
+            int again = call.on(each);
+            if (got != due || again != due) {
                 Due.is(this + call.toString(), got, due);
+                Due.is(this + call.toString() + " again", again, due);
             }
         }
-        List<List<Integer>> touched =
-            List.of(Look.all(x), Later.builtOn(x), Later.saturated(y));
+        List<List<Integer>> touched = List.of(Look.all(x[0]), Later.filled(x[1]),
+            Later.builtOn(x[2]), Later.saturated(x[3]));
         if (!touched.equals(untouched)) {
             Due.holds(this + call.toString() + " changes nothing", false);
         }

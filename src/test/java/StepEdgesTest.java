@@ -322,15 +322,14 @@ public final class StepEdgesTest extends Edges {
         // PK(b) does not open what is closed with it.
         Scene withPk = STEPPED.then(step(S_PK, 3, 0, 0));
         withPk.keeps(step(S_ADEC, 2, 4, 0), ERR_INVALID);
-        // AENC(c,b) has no PK as its key: neither b nor PK(b) opens it.
-        Scene noPk = TERMS.then(make(AENC, 2, 1), know(11), know(1), saturate(), init(0), init(1),
-            step(S_PK, 1, 0, 0));
-        noPk.keeps(step(S_ADEC, 0, 1, 0), ERR_INVALID);
-        noPk.keeps(step(S_ADEC, 0, 2, 0), ERR_INVALID);
-        // AENC(c,(b,b)): the left part of a key that is no PK does not open it either.
-        Scene pairKey = TERMS.then(make(PAIR, 1, 1), make(AENC, 2, 11), know(12), know(1),
-            saturate(), init(0), init(1));
-        pairKey.keeps(step(S_ADEC, 0, 1, 0), ERR_INVALID);
+        // AENC(c,b) has no PK as its key, nor has AENC(c,(b,b)): nothing opens them.
+        Scene noPk = TERMS.then(make(AENC, 2, 1), make(PAIR, 1, 1), make(AENC, 2, 12), know(11),
+            know(13), know(1), know(0), know(3), saturate(), init(0), init(1), init(2), init(3),
+            init(4), step(S_PK, 2, 0, 0), step(S_PAIR, 2, 2, 0));
+        for (int b = 0; b < 7; b++) {
+            noPk.keeps(step(S_ADEC, 0, b, 0), ERR_INVALID);
+            noPk.keeps(step(S_ADEC, 1, b, 0), ERR_INVALID);
+        }
         // AENC(c,PK(PK(b))) is opened by PK(b) alone.
         Scene twice = TERMS.then(make(PK, 8, 0), make(AENC, 2, 11), know(12), know(1), saturate(),
             init(0), init(1), step(S_PK, 1, 0, 0));
